@@ -1,0 +1,20 @@
+/** Counts and prints the answers that are not the ones that are due. */
+final class Due {
+  private static int wrong = 0;
+  private static int asked = 0;
+
+  private Due() {}
+
+  static void is(String call, long got, long want) {
+    asked++;
+    if (got != want) {
+      wrong++;
+      System.out.println(call + " answered " + got + ", due is " + want);
+    }
+  }
+
+  static void end() {
+    System.out.println(wrong == 0 ? asked + " answers are as due" : wrong + " of " + asked + " answers are not as due");
+    if (wrong != 0) System.exit(1);
+  }
+}
