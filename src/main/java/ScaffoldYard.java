@@ -869,9 +869,7 @@ public final class ScaffoldYard {
         private final int[] tags = new int[MOST_LIFTS];
 
         Frame() {
-            Arrays.fill(classes, -1);
             Arrays.fill(hangers, -1);
-            Arrays.fill(tags, -1);
         }
 
         void begin(int newLifts, int newHeight) {
@@ -881,11 +879,17 @@ public final class ScaffoldYard {
             height = newHeight;
             pressure = 0;
             Arrays.fill(lowest, 0);
-            Arrays.fill(floors, false);
+            clear(floors);
             Arrays.fill(classes, -1);
-            Arrays.fill(braces, false);
-            Arrays.fill(ties, false);
+            clear(braces);
+            clear(ties);
             Arrays.fill(tags, -1);
+        }
+
+        private static void clear(boolean[] row) {
+            for (int k = 0; k < row.length; k++) {
+                row[k] = false;
+            }
         }
 
         void addBay(int kind, int width) {

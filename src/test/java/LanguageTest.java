@@ -100,6 +100,7 @@ public final class LanguageTest {
     Matcher library = Pattern.compile("\\b(Math|Arrays|Integer|Long)\\.(\\w+)").matcher(source);
     Set<String> allowed = Set.of("Math.max", "Math.min", "Math.abs", "Arrays.fill");
     while (library.find()) must(allowed.contains(library.group()), library.group() + " is of the library that is listed");
+    must(!Pattern.compile("Arrays\\.fill\\([^)]*\\b(true|false)\\b").matcher(source).find(), "Arrays.fill is for numbers alone");
     for (char sign : source.toCharArray()) must(sign < 128, "signs are 1 to 127");
   }
 

@@ -650,6 +650,10 @@ public final class PromisesTest {
     Due.is("24 no foot", x.over(0, 0), 0);
     x.table(2, 1, 8);
     Due.is("24 no foot, a half above", x.over(0, 0), 4);
+    x.board(0, 1, 1, 2);
+    Due.is("24 no foot has 9 then", x.load(0, 2), 18);
+    x.table(2, 1, 9);
+    Due.is("24 just what it bears", x.over(0, 0), 0);
     x.gust(0, 1);
     x.tie(0, 5, 0, 1);
     x.tie(0, 5, 1, 1);
@@ -1158,11 +1162,40 @@ public final class PromisesTest {
     Due.is("44 five at most", x.count(5), 5);
   }
 
+  /** The greatest frame there can be: the last places of all rows. */
+  private static void greatest() {
+    ScaffoldYard x = yard(6, 0, 4, 0, 0, 0, 0, 0, 1, 1, 1);
+    x.gust(0, 1);
+    x.tie(0, 10, 5, 1);
+    Due.is("the last tie", x.wind(0, 10, 5), 24);
+    x.table(2, 0, 23);
+    Due.is("the last tie is over", x.over(0, 1), 1);
+    x.table(2, 6, 11);
+    Due.is("standards of six lifts", x.over(0, 0), 0x47F | 0x80);
+    x.rule(0, 1);
+    x.rule(2, 1);
+    Due.is("all breaches", x.breaches(0), 59 + 57);
+    breachIs(x, 115, 1, 5, 9);
+    Due.is("all breaches", x.breach(0, 116, 0), NONE);
+    Due.is("the last tube", x.isUp(0, TUBE + 65), 0);
+    Due.is("the last beam", x.isUp(0, BEAM + 9), 0);
+    x.frame(1, 1, 1, 1);
+    for (int bay = 1; bay < 10; bay++) x.bay(1, x.told(0, bay, 0), bay + 1);
+    Due.is("all stay", x.stays(0, 1, -1), 10);
+    Due.is("the last one stays", x.stays(0, 1, 9), 9);
+    Due.is("none behind", x.stays(0, 1, 10), NONE);
+    int all = 64 + 57 + 1 + 3;
+    Due.is("all up", x.go(0, 400, 1), all);
+    Due.is("the last beam", x.isUp(0, BEAM + 9), 1);
+    Due.is("all down", x.go(0, 400, 0), all);
+  }
+
   public static void main(String[] args) {
     p1(); p2(); p3(); p4(); p5(); p6(); p7(); p8(); p9(); p10(); p11();
     p12(); p13(); p14(); p15(); p16(); p17(); p18(); p19(); p20(); p21(); p22();
     p23(); p24(); p25(); p26and27(); p28(); p29(); p30(); p31(); p32(); p33();
     p34(); p35(); p36(); p37(); p38(); p39(); p40(); p41(); p42(); p43(); p44();
+    greatest();
     Due.end();
   }
 }
