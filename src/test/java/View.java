@@ -1,5 +1,7 @@
-import java.util.ArrayList;
 import java.util.Arrays;
+import java.util.LinkedHashMap;
+import java.util.Map;
+import java.util.ArrayList;
 import java.util.List;
 
 /**
@@ -8,8 +10,8 @@ import java.util.List;
  */
 final class View {
   private final Deed made;
-  private final List<String> names = new ArrayList<>();
-  private final List<Long> answers = new ArrayList<>();
+  private final Map<String, Long> answers = new LinkedHashMap<>();
+  private String prefix = "";
   private ScaffoldYard x;
 
   private View(Deed made) {
@@ -26,14 +28,33 @@ final class View {
     return view;
   }
 
+  /** What can be asked of one frame, but for what it shares with others. */
+  static View ofFrame(Deed made, int f) {
+    View view = new View(made);
+    view.frame(f);
+    return view;
+  }
+
   /** The first question that two views answer otherwise; null: there is none. */
   String otherThan(View other) {
-    for (int k = 0; k < answers.size(); k++) {
-      if (!answers.get(k).equals(other.answers.get(k))) {
-        return names.get(k) + " was " + other.answers.get(k) + ", then " + answers.get(k);
-      }
+    List<String> all = changesFrom(other);
+    return all.isEmpty() ? null : all.get(0);
+  }
+
+  /** Each question that another view answers otherwise, with what it was and what it is. */
+  List<String> changesFrom(View other) {
+    List<String> all = new ArrayList<>();
+    for (String name : answers.keySet()) {
+      long was = other.answers.get(name), is = answers.get(name);
+      if (was != is) all.add(name + ": " + word(was) + " > " + word(is));
     }
-    return null;
+    return all;
+  }
+
+  private static String word(long answer) {
+    if (answer == ScaffoldYard.NO) return "NO";
+    if (answer == ScaffoldYard.INDEX) return "INDEX";
+    return answer == ScaffoldYard.NONE ? "NONE" : Long.toString(answer);
   }
 
   private void anew() {
@@ -42,8 +63,7 @@ final class View {
   }
 
   private void note(long answer, String name, int... args) {
-    names.add(name + Arrays.toString(args));
-    answers.add(answer);
+    answers.put(prefix + name + Arrays.toString(args), answer);
   }
 
   private void frame(int f) {
@@ -52,16 +72,8 @@ final class View {
     for (int bay = 0; bay < 10; bay++) {
       note(x.told(f, bay, 0), "told", f, bay, 0);
       note(x.told(f, bay, 1), "told", f, bay, 1);
+      note(x.isOf(f, bay, 2), "isOf", f, bay, 2);
     }
-    for (int s = 0; s < 11; s++) {
-      note(x.load(f, s), "load", f, s);
-      note(x.foot(f, s, 0), "foot", f, s, 0);
-      note(x.free(f, s), "free", f, s);
-    }
-    note(x.over(f, 0), "over", f, 0);
-    note(x.over(f, 1), "over", f, 1);
-    note(x.lost(f), "lost", f);
-    note(x.breaches(f), "breaches", f);
     for (int lift = 0; lift < 6; lift++) note(x.tagged(f, lift), "tagged", f, lift);
     for (int lift = 0; lift < 6; lift++) note(x.floor(f, lift), "floor", f, lift);
     anew();
@@ -72,7 +84,29 @@ final class View {
     }
     anew();
     for (int what = 0; what < 3; what++) note(x.next(f, what), "next", f, what);
+    for (int kind = 0; kind < 6; kind++) {
+      for (int width = 1; width < 8; width++) note(x.wants(f, kind, width), "wants", f, kind, width);
+    }
     note(x.go(f, 400, 0), "go", f, 400, 0);
+    loads(f);
+  }
+
+  private void loads(int f) {
+    anew();
+    for (int s = 0; s < 11; s++) {
+      note(x.load(f, s), "load", f, s);
+      note(x.foot(f, s, 0), "foot", f, s, 0);
+      note(x.foot(f, s, 1), "foot", f, s, 1);
+      note(x.free(f, s), "free", f, s);
+      for (int lift = 0; lift < 6; lift++) note(x.wind(f, s, lift), "wind", f, s, lift);
+    }
+    note(x.over(f, 0), "over", f, 0);
+    note(x.over(f, 1), "over", f, 1);
+    note(x.lost(f), "lost", f);
+    note(x.breaches(f), "breaches", f);
+    for (int i = 0; i < 20; i++) {
+      for (int what = 0; what < 3; what++) note(x.breach(f, i, what), "breach", f, i, what);
+    }
   }
 
   private void plan(int f) {
@@ -88,18 +122,15 @@ final class View {
     anew();
     for (int what = 0; what < 6; what++) note(x.count(what), "count", what);
     note(x.stranded(), "stranded");
-    note(x.day(0), "day", 0);
     for (int person = 0; person < 10; person++) note(x.leave(person), "leave", person);
-    note(x.storm(), "storm");
-    for (int which = 0; which < 3; which++) note(x.rule(which, 1), "rule", which, 1);
+    for (int which = 0; which < 3; which++) note(x.rule(which, 1), "rule", which);
     for (int table = 0; table < 3; table++) {
-      for (int place = 0; place < (table == 2 ? 7 : 6); place++) note(x.table(table, place, 1), "table", table, place, 1);
+      for (int place = 0; place < (table == 2 ? 7 : 6); place++) note(x.table(table, place, 1), "table", table, place);
     }
-    for (int k = 0; k < 6; k++) note(x.undo(), "undo");
     for (int half = 0; half < 2; half++) {
       anew();
       for (int kind = 3 * half; kind < 3 * half + 3; kind++) {
-        for (int width = 1; width <= 100; width++) note(x.stock(kind, width, 0), "stock", kind, width, 0);
+        for (int width = 1; width <= 100; width++) note(x.stock(kind, width, 0), "stock", kind, width);
       }
     }
   }
@@ -108,9 +139,11 @@ final class View {
   private void undone(int f, int changes) {
     anew();
     for (int g = 0; g < 3; g++) x.go(g, 400, 0);
+    prefix = "undone " + changes + ": ";
     for (int k = 0; k < changes; k++) note(x.undo(), "undo", k);
-    note(x.about(f, 7), "undone: about", f, 7);
+    note(x.about(f, 7), "about", f, 7);
     plan(f);
-    for (int lift = 0; lift < 6; lift++) note(x.floor(f, lift), "undone: floor", f, lift);
+    for (int lift = 0; lift < 6; lift++) note(x.floor(f, lift), "floor", f, lift);
+    prefix = "";
   }
 }
