@@ -460,6 +460,7 @@ public final class EdgesTest {
     x.go(0, 400, 1);
     Due.is("10 they are up", x.board(0, 1, 1, 2), NO);
     Due.is("10 they are up, none", x.board(0, 1, 1, -1), NO);
+    Due.is("10 they are up, the same", x.board(0, 1, 1, 1), NO);
     Due.is("10 those above are not", x.board(0, 1, 2, 2), -1);
     Due.is("10 those beside are not", x.board(0, 0, 1, 2), -1);
     x.take(0, BOARDS + 11 + 1);
@@ -744,6 +745,67 @@ public final class EdgesTest {
     x.put(0, BRACE);
     Due.is("14 a brace that was there all along", x.undo(), 2);
     Due.is("14 stays up", x.isUp(0, BRACE), 1);
+  }
+
+  private static void whatAltersNothingIsAChangeAllTheSame() {
+    Deed[] same = {y -> y.floor(0, 0), y -> y.board(0, 0, 0, 4), y -> y.board(0, 1, 0, -1), y -> y.brace(0, 0, 0, 1), y -> y.brace(0, 1, 0, 0),
+      y -> y.tie(0, 0, 0, 1), y -> y.tie(0, 1, 0, 0), y -> y.gust(0, 6)};
+    for (int k = 0; k < same.length; k++) {
+      ScaffoldYard x = yard(1, 1, 1, 0);
+      x.floor(0, 0);
+      x.board(0, 0, 0, 4);
+      x.brace(0, 0, 0, 1);
+      x.tie(0, 0, 0, 1);
+      x.gust(0, 6);
+      x.bay(0, 0, 1);
+      x.frame(1, 1, 1, 1);
+      x.gust(1, 1);
+      same[k].on(x);
+      Due.is("7 a change, " + k, x.count(5), 2);
+      Due.is("14 it is taken back, " + k, x.undo(), 1);
+      Due.is("14 nothing is otherwise, " + k, x.about(1, 7) + 10 * x.about(0, 7) + 100 * x.about(0, 4) + 1000 * x.about(0, 5) + 10000 * x.about(0, 6), 11161);
+      Due.is("14 the one ahead of it, " + k, x.undo(), 0);
+      Due.is("14 the one ahead of it, " + k, x.about(1, 7), 0);
+    }
+  }
+
+  private static void piecesOfAnotherFrameAreNoMatter() {
+    ScaffoldYard x = new ScaffoldYard();
+    for (int f = 0; f < 3; f++) {
+      x.frame(f, 1, 1, 1);
+      x.bay(f, 0, 1);
+    }
+    for (int f = 0; f < 3; f += 2) {
+      x.floor(f, 0);
+      x.board(f, 0, 0, 1);
+      x.brace(f, 0, 0, 1);
+      x.tie(f, 0, 0, 1);
+      x.go(f, 400, 1);
+    }
+    x.floor(1, 0);
+    Due.is("10 boards of others are up", x.board(1, 0, 0, 1), -1);
+    Due.is("11 braces of others are up", x.brace(1, 0, 0, 1), 0);
+    Due.is("12 ties of others are up", x.tie(1, 0, 0, 1), 0);
+    for (int k = 4; k > 1; k--) Due.is("14 pieces of others are up", x.undo(), k);
+    Due.is("10 again", x.board(1, 0, 0, 1), -1);
+    Due.is("9 boards of others are up", x.strip(1, 0), 1);
+    Due.is("28 tubes of others are up", x.put(1, LEDGER), NO);
+    Due.is("28 how many of that frame", x.put(1, TUBE), 1);
+    Due.is("29 what others need", x.take(1, TUBE), 0);
+    Due.is("29 how many of that frame", x.take(2, TIE), 7);
+    Due.is("44 in all", x.count(1), 15);
+    Due.is("6 pieces of others are up", x.bay(1, 0, 1), 2);
+    Due.is("7 pieces of others are up", x.drop(1), 1);
+    Due.is("35 pieces of others are not up", x.tag(0, 0, 1), 0);
+    x.frame(1, 1, 20, 100);
+    x.table(2, 1, 19);
+    x.rule(0, 1);
+    x.tie(0, 2, 0, 1);
+    x.go(0, 400, 1);
+    Due.is("24 standards of another frame are over", x.over(1, 0), 3);
+    Due.is("26 another frame breaks a rule", x.breaches(1), 1);
+    Due.is("35 those of others are no matter", x.tag(0, 0, 1), 0);
+    Due.is("35 its own are", x.tag(1, 0, 1), NO);
   }
 
   // ---- 2 LOADS; promises 19 and 20
@@ -1032,6 +1094,47 @@ public final class EdgesTest {
     Due.is("24 all on one, just held", x.over(0, 1), 0);
     x.table(2, 0, 9);
     Due.is("24 all on one", x.over(0, 1), 1);
+  }
+
+  private static void lostWindIsOnNoTie() {
+    ScaffoldYard x = yard(1, 1, 1, 0, NETTED);
+    x.gust(0, 9);
+    x.table(2, 0, 0);
+    Due.is("22 lost", x.lost(0), 9);
+    Due.is("24 no tie is over", x.over(0, 1), 0);
+    x.tie(0, 0, 0, 1);
+    Due.is("24 a tie is over", x.over(0, 1), 1);
+  }
+
+  private static String reckoned(ScaffoldYard x) {
+    StringBuilder all = new StringBuilder();
+    for (int what = 0; what < 8; what++) all.append(x.about(0, what)).append(' ');
+    for (int s = 0; s < 6; s++) all.append(x.load(0, s)).append(' ').append(x.foot(0, s, 0)).append(' ').append(x.free(0, s)).append(' ');
+    for (int s = 0; s < 18; s++) all.append(x.wind(0, s % 6, s / 6)).append(' ');
+    all.append(x.lost(0)).append(' ').append(x.over(0, 0)).append(' ').append(x.over(0, 1)).append(' ').append(x.breaches(0));
+    for (int kind = 0; kind < 6; kind++) all.append(' ').append(x.wants(0, kind, 1)).append(' ').append(x.lacks(kind, 2));
+    return all.toString();
+  }
+
+  private static void thePlanIsReckonedUpOrNot() {
+    ScaffoldYard x = yard(3, 2, 1, 0, GATE, GATE, NETTED, HUNG);
+    for (int lift = 0; lift < 3; lift++) {
+      x.floor(0, lift);
+      x.board(0, 3, lift, lift);
+      x.brace(0, lift, 1, 1);
+      x.tie(0, 2 + lift, 1, 1);
+    }
+    x.gust(0, 3);
+    x.rule(0, 1);
+    x.rule(2, 1);
+    x.table(2, 0, 5);
+    x.table(2, 2, 9);
+    String due = reckoned(x);
+    for (int up = 0; up < 3; up++) {
+      Due.is("31 some are put", x.go(0, 15, 1), up < 2 ? 15 : 11);
+      Due.is("2 the plan, not what is up: " + reckoned(x), reckoned(x).equals(due) ? 1 : 0, 1);
+    }
+    Due.is("30 all are up", x.next(0, 2), NONE);
   }
 
   // ---- 3 RULES; promises 25 to 27
@@ -1452,9 +1555,23 @@ public final class EdgesTest {
     Due.is("36 behind it", x.tagged(0, 0), NONE);
     Due.is("35 again", x.tag(0, 0, 2), 1031);
     Due.is("35 for less", x.tag(0, 0, 1), 1030);
+    Due.is("36 for less", x.tagged(0, 0), 1030);
     Due.is("44 it is one tag", x.count(2), 1);
     x.day(1000);
     Due.is("36 far behind", x.tagged(0, 0), NONE);
+  }
+
+  private static void tagsOfAllFramesEndBehindTheirDays() {
+    ScaffoldYard x = new ScaffoldYard();
+    for (int f = 0; f < 3; f++) {
+      x.frame(f, 6, 1, 1);
+      x.go(f, 400, 1);
+      for (int lift = 0; lift < 6; lift++) x.tag(f, lift, 6 * f + lift + 1);
+    }
+    for (int day = 0; day < 19; day++) {
+      for (int tag = 0; tag < 18; tag++) Due.is("36 day " + day + ", tag " + tag, x.tagged(tag / 6, tag % 6), tag < day ? NONE : tag);
+      x.day(1);
+    }
   }
 
   private static void aTagEndsByPiecesOfItsLiftAndBelow() {
@@ -1750,14 +1867,16 @@ public final class EdgesTest {
     boardsHaveAClassOrAreNone(); bracesAndTiesAreOrAreNot(); windIsOfEachFrame(); kindsOfBays(); theFullPlan();
     theLatestFiveAreKept(); changesComeAndGo(); eachKindOfChangeIsTakenBack(); changesOfAllFramesAreKeptTogether();
     noneIsKeptBehindFrameBayDrop(); otherCallsAreNoChanges(); undoWaitsForPiecesThatAreUp(); undoThatOnlyBringsBackIsNotRefused();
+    whatAltersNothingIsAChangeAllTheSame(); piecesOfAnotherFrameAreNoMatter();
     boardsWeigh(); boardsOfAllLiftsCount(); aStandardWeighsItsHeight(); fractionsAreInLowestTerms(); manyGatesSideBySide(); theGreatestFraction();
     windPressesNettedBaysAtEachLift(); windGoesToTheNearestTie(); theFirstTieAndTheLastHoldWind();
     freeLifts(); eachFreeHasItsPlace(); overIsAbove(); withoutAFootItsOwnLoadAlone(); overHasABitForEach(); aTieIsOverAboveWhatItHolds();
+    lostWindIsOnNoTie(); thePlanIsReckonedUpOrNot();
     rulesHaveRanges(); noRuleIsBroken(); tiesOfStandardsSideBySide(); tiesOfLiftsOneAboveTheOther(); bracesOfBaysSideBySide();
     aGateAtLift0CountsAsBraced(); breachesStandInOrder(); theMostBreaches();
     numbersOfPieces(); eachPieceNeeds(); whatAPieceDoesNotNeed(); gatesFarFromTheirFeet(); oneLiftWithGates();
     goTakesTheGreatestEachTime(); nextIsNoneAtTheEnds(); goAtMostSoManyTimes(); goEndsTags();
-    daysGoBy(); theLastDayThatIs(); aTagEndsBehindItsDay(); aTagEndsByPiecesOfItsLiftAndBelow(); aStormEndsAllTags();
+    daysGoBy(); theLastDayThatIs(); aTagEndsBehindItsDay(); tagsOfAllFramesEndBehindTheirDays(); aTagEndsByPiecesOfItsLiftAndBelow(); aStormEndsAllTags();
     aTagNeedsItsLiftAndThoseBelow(); aTagNeedsThatNoStandardIsOver(); peopleComeAndGo(); peopleAreOnLiftsOfFrames(); strandedByTheTagOfTheirOwnLift(); aPersonMayEnterUpToTheLastDay();
     stockHasRanges(); wantsByWidths(); lacksOfAllFrames(); baysThatStay(); counts();
     Due.end();

@@ -5,6 +5,8 @@
 public final class SlowYardTest {
   private static final int RUNS = 3000, CALLS = 512;
   private static long seed;
+  /** The frame that most calls of a run are about; so each frame has its turn. */
+  private static int mainFrame;
   private static int wrong = 0;
   private static final int[] answers = new int[45];
   private static final int[] goods = new int[45];
@@ -26,7 +28,8 @@ public final class SlowYardTest {
     }
   }
 
-  private static int frame() { return draw(12) == 0 ? near(0, 2) : draw(3) == 0 ? 1 : 0; }
+  private static int someFrame(int others) { return (mainFrame + (draw(others) == 0 ? 1 : 0)) % 3; }
+  private static int frame() { return draw(12) == 0 ? near(0, 2) : someFrame(3); }
   private static int lift() { return draw(5) == 0 ? near(0, 5) : draw(3); }
   private static int bay() { return draw(4) == 0 ? near(0, 10) : draw(5); }
   private static int width() { return draw(6) == 0 ? near(1, 100) : 1 + draw(4); }
@@ -158,7 +161,7 @@ public final class SlowYardTest {
 
   /** Takes a frame down, if need be, and fills it anew. */
   private static int build(int run, int at, ScaffoldYard x, SlowYard y) {
-    int f = draw(2);
+    int f = someFrame(2);
     if (draw(3) > 0) same(run, at, 31, told("go", f, 400, 0), x.go(f, 400, 0), y.go(f, 400, 0));
     one(run, at + 1, x, y, 7);
     one(run, at + 2, x, y, 5);
@@ -171,7 +174,7 @@ public final class SlowYardTest {
 
   /** Makes a tag likely, which calls drawn alone seldom bring about, and lets people go on. */
   private static int settle(int run, int at, ScaffoldYard x, SlowYard y) {
-    int f = draw(2), a = draw(3), l = draw(2);
+    int f = someFrame(2), a = draw(3), l = draw(2);
     same(run, at, 25, told("rule", 0, a), x.rule(0, a), y.rule(0, a));
     same(run, at + 1, 25, told("rule", 1, 6), x.rule(1, 6), y.rule(1, 6));
     same(run, at + 2, 25, told("rule", 2, 0), x.rule(2, 0), y.rule(2, 0));
@@ -206,6 +209,7 @@ public final class SlowYardTest {
   public static void main(String[] args) {
     for (int run = 0; run < RUNS; run++) {
       seed = run * 7919L + 17;
+      mainFrame = run % 3;
       draw(9);
       ScaffoldYard x = new ScaffoldYard();
       SlowYard y = new SlowYard();
